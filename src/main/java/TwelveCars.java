@@ -658,6 +658,7 @@ public final class TwelveCars {
 
         /** Whether a car in which just these ride fits. */
         boolean fitTogether(int set) {
+            int seats = 0;
             int children = 0;
             int goats = 0;
             int others = 0;
@@ -665,6 +666,7 @@ public final class TwelveCars {
                 if ((set >> i & 1) == 0) {
                     continue;
                 }
+                seats += SEATS[kinds[i]];
                 if (kinds[i] == CHILD) {
                     children++;
                 } else if (kinds[i] == GOAT) {
@@ -674,7 +676,7 @@ public final class TwelveCars {
                 }
             }
             boolean childrenRideAsTheyMay = children == 0 || others > 0 && goats == 0;
-            return childrenRideAsTheyMay && seatsOf(set) <= SEATS_OF_A_CAR;
+            return childrenRideAsTheyMay && seats <= SEATS_OF_A_CAR;
         }
 
         void weighSand(Balance into) {
@@ -781,13 +783,14 @@ public final class TwelveCars {
             if (minute > LAST || minute > best >> ROW_BITS) {
                 return;
             }
+            int riders = wheel.whoIsAt((wheel.foot() + minute) % CARS);
             // All who are left come first: a way that ends now cuts off all that end later.
             int part = left;
             for (int n = 0; n < 1 << MOST_IN_SET; n++) {
                 if (part == 0) {
                     break;
                 }
-                if (mayGoTogether(part, left)) {
+                if (mayGoTogether(part, left) && wheel.fitTogether(riders | part)) {
                     putIn(minute, left, row, part);
                 }
                 part = part - 1 & left;
@@ -809,9 +812,6 @@ public final class TwelveCars {
 
         private void putIn(int minute, int left, int row, int part) {
             int car = (wheel.foot() + minute) % CARS;
-            if (!wheel.fitTogether(wheel.whoIsAt(car) | part)) {
-                return;
-            }
             int weight = wheel.weightOf(part);
             now.hang(car, weight);
             if (now.isEvenWithin(wheel.limit)) {
@@ -978,41 +978,29 @@ public final class TwelveCars {
 
         /** How many, or a fault. */
         int readPeople() {
-            at = 0;
-            for (int n = 0; n < MOST_PEOPLE; n++) {
-                int fault = readLetter(KIND_LETTERS, n);
-                if (fault == 0) {
-                    fault = readNumber(n, 1, MOST_WEIGHT);
-                }
-                if (fault != 0) {
-                    return fault;
-                }
-                if (next() == END) {
-                    return n + 1;
-                }
-                if (next() != ',' || n == MOST_PEOPLE - 1) {
-                    return faultAt(at);
-                }
-                at++;
-            }
-            return faultAt(at);
+            return readEntries(KIND_LETTERS, ',', MOST_PEOPLE);
         }
 
         /** How many, or a fault. */
         int readEvening() {
+            return readEntries(EVENING_LETTERS, ';', MOST_ENTRIES);
+        }
+
+        private int readEntries(String known, char between, int most) {
             at = 0;
-            for (int n = 0; n < MOST_ENTRIES; n++) {
-                int fault = readLetter(EVENING_LETTERS, n);
+            for (int n = 0; n < most; n++) {
+                int fault = readLetter(known, n);
                 if (fault == 0) {
-                    fault = readWhatFollows(n);
+                    fault = between == ',' ? readNumber(n, 1, MOST_WEIGHT) : readWhatFollows(n);
                 }
                 if (fault != 0) {
                     return fault;
                 }
-                if (next() == END) {
+                int b = next();
+                if (b == END) {
                     return n + 1;
                 }
-                if (next() != ';') {
+                if (b != between || n == most - 1) {
                     return faultAt(at);
                 }
                 at++;

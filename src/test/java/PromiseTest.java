@@ -24,9 +24,11 @@ public final class PromiseTest {
         turn();
         may();
         soonest();
+        soonestInCarsToCome();
         when();
         aheadOfTheLastMinute();
         empty();
+        emptyAtItsEdges();
         least();
         sureAndWorst();
         imageAndRestore();
@@ -366,6 +368,9 @@ public final class PromiseTest {
         x.board(3);
         x.limit(20);
         due("12 out of true then", x.leave(3), TwelveCars.NOT);
+        x.limit(40);
+        x.turn(12);
+        due("12 from minute 30 to 42", x.leave(3), 12);
     }
 
     private static void sand() {
@@ -438,6 +443,24 @@ public final class PromiseTest {
         x = with("s20,s20", 20, "t");
         due("16 in order", x.soonest(3, 1), 4);
         due("16 nothing is changed", x.count(3), 3);
+    }
+
+    private static void soonestInCarsToCome() {
+        // Sand of 20 in car 5: 40 are even in car 11 alone, which comes last.
+        TwelveCars x = with("g40", 20, "t;t;t;t;t;s20;t;t;t;t;t;t;t");
+        due("16 eleven minutes", x.soonest(1, 0), 11);
+        due("17 eleven minutes", x.when(1, 2, 0), 11);
+        x.turn(11);
+        due("16 it is there now", x.soonest(1, 0), 0);
+
+        // 37 are even in car 1 alone, and that is full till one gets out.
+        x = with("g1,g1,g1,g37", 20, "t;i0;i1;i2;t;t;t;t;t;t;s20;t;t;t;t;t");
+        due("16 a full car to come", x.soonest(8, 0), TwelveCars.NONE);
+        x.turn(1);
+        x.leave(0);
+        due("16 a seat", x.soonest(8, 0), 0);
+        x.turn(11);
+        due("16 a seat to come", x.soonest(8, 0), 1);
     }
 
     private static void when() {
@@ -515,6 +538,23 @@ public final class PromiseTest {
         due("18 in the next round", x.empty(), 17);
     }
 
+    private static void emptyAtItsEdges() {
+        // Two of 15 in car 11 and 30 across: one of the two, then the 30, then the other, rounds apart.
+        TwelveCars x = with("g15,g15,g30", 30, "t;t;t;t;t;t;t;t;t;t;t;i0;i1;t;t;t;t;t;t;i2;t;t;t;t;t;t;t");
+        x.limit(20);
+        due("18 23 minutes", x.empty(), 23);
+        x.turn(6);
+        due("18 17 minutes", x.empty(), 17);
+        x.turn(1);
+        due("18 behind car 6", x.empty(), 16);
+
+        // It would be even if the guest got out and the child stayed; but a child rides with another only.
+        x = with("g25,c10,g30", 40, "i0;i1;t;t;t;t;t;t;i2;t;t;t;t;t;t");
+        x.limit(20);
+        due("18 a child does not stay alone", x.empty(), TwelveCars.NONE);
+        due("18 nor now", x.may(1), 2);
+    }
+
     private static void least() {
         TwelveCars x = with("g20,g21,c5,g99,g50");
         due("19 none needed", x.least(0, 0), 0);
@@ -558,6 +598,9 @@ public final class PromiseTest {
         due("19 nine more", x.least(0, 0), 9);
         due("19 across", x.least(0, 1), 6);
         due("19 ten more are too much", x.least(1, 0), TwelveCars.NONE);
+        x = with("g99");
+        x.limit(0);
+        due("19 99", x.least(0, 0), 99);
     }
 
     private static void sureAndWorst() {
@@ -701,6 +744,17 @@ public final class PromiseTest {
         x.sheet(2, 0, 12);
         due("25 200", x.film(2, 0, 0), 12);
         due("25 200 is below 0 in a byte", x.pour(2, 0, 0), TwelveCars.NOT);
+
+        x = new TwelveCars();
+        due("25 done", Check.evening(x, "s3;t;s4;t;t;t;t;t;t;t;t;t;t;s5;t"), 15);
+        x.sheet(0, 1, 24);
+        x.film(0, 1, 12);
+        x.limit(999);
+        due("25 a car each", x.pour(0, 1, 12), 12);
+        due("25 car 1", x.car(1, 2), 4);
+        due("25 car 11", x.car(11, 2), 5);
+        due("25 from one on", x.pour(0, 1, 11), 7);
+        due("25 car 1 as the one before it", x.car(1, 2), 3);
     }
 
     private static void sheetAndDrop() {
