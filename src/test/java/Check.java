@@ -1,23 +1,57 @@
+import java.io.IOException;
+import java.nio.file.Files;
+import java.nio.file.Path;
+import java.util.List;
+
 /** Counts answers that are not as due, and types texts onto a tape. */
 final class Check {
+    private static final Path DOCUMENT = Path.of("../shared/DOC.md");
+
     private int asked = 0;
     private int wrong = 0;
+    private String sentence = "";
+    private String document = null;
 
-    void due(String call, long got, long want) {
-        asked++;
-        if (got != want) {
-            wrong++;
-            if (wrong <= 50) {
-                System.out.println(call + " answered " + got + ", due is " + want);
+    /** What is asked from here on tests these words, which must stand in the document. */
+    void says(String words) {
+        sentence = "\"" + words + "\": ";
+        holds("the document does not say so", Files.notExists(DOCUMENT) || readDocument().contains(words));
+    }
+
+    private String readDocument() {
+        if (document == null) {
+            try {
+                document = Files.readString(DOCUMENT).replaceAll("\\s+", " ");
+            } catch (IOException unread) {
+                throw new IllegalStateException(unread);
             }
         }
+        return document;
+    }
+
+    void due(String call, long got, long want) {
+        holds(call + " answered " + got + ", due is " + want, got == want);
+    }
+
+    void same(String what, List<String> got, List<String> want) {
+        for (int i = 0; i < Math.max(got.size(), want.size()); i++) {
+            String one = i < got.size() ? got.get(i) : "nothing";
+            String other = i < want.size() ? want.get(i) : "nothing";
+            if (!one.equals(other)) {
+                holds(what + ": then " + one + ", due is " + other, false);
+                return;
+            }
+        }
+        asked++;
     }
 
     void holds(String what, boolean so) {
         asked++;
         if (!so) {
             wrong++;
-            System.out.println(what);
+            if (wrong <= 50) {
+                System.out.println(sentence + what);
+            }
         }
     }
 

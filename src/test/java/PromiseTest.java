@@ -45,16 +45,11 @@ public final class PromiseTest {
     }
 
     private static TwelveCars with(String people) {
-        TwelveCars x = new TwelveCars();
-        CHECK.holds("people " + people, Check.people(x, people) > 0);
-        return x;
+        return Scene.of(people);
     }
 
     private static TwelveCars with(String people, int limit, String evening) {
-        TwelveCars x = with(people);
-        due("limit", x.limit(limit), 20);
-        due(evening, Check.evening(x, evening), evening.split(";").length);
-        return x;
+        return Scene.of(people, limit, evening);
     }
 
     private static void newObject() {
