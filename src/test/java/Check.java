@@ -5,6 +5,10 @@ import java.util.List;
 
 /** Counts answers that are not as due, and types texts onto a tape. */
 final class Check {
+    /** Numbers that nothing bears, among them those that would be taken if a high bit were lost. */
+    static final int[] FAR_OFF = {Integer.MIN_VALUE, Integer.MIN_VALUE + 1, -65536, -256, -2, 256, 65536, 1 << 30,
+        Integer.MAX_VALUE};
+
     private static final Path DOCUMENT = Path.of("../shared/DOC.md");
 
     private int asked = 0;

@@ -3,13 +3,12 @@ public final class EdgeSearchTest {
     private static final int BAD = TwelveCars.BAD, NONE = TwelveCars.NONE, FULL = TwelveCars.FULL;
     private static final int FAR_BAD = -100000001, FAR_FULL = -100000003;
     private static final int ANY = 0, IN_ORDER = 1, TOGETHER = 2;
-    private static final int[] FAR_OFF = {Integer.MIN_VALUE, Integer.MIN_VALUE + 1, -65536, -256, -2, 256, 65536, 1 << 30,
-        Integer.MAX_VALUE};
     private static final Check CHECK = new Check();
 
     public static void main(String[] args) {
         setsOfUpToFour();
         setsOfThoseWhoWait();
+        fewestMinutes();
         inNow();
         inElevenMinutes();
         inWhereItFits();
@@ -105,6 +104,18 @@ public final class EdgeSearchTest {
         due("all bits", x.soonest(-1, ANY), BAD);
         due("all bits but some", x.soonest(-4, ANY), BAD);
         row("who waits", x, 4 + 8, ANY, 0, 0);
+    }
+
+    private static void fewestMinutes() {
+        CHECK.says("SOONEST: the fewest MINUTES by which all are in");
+        // Seats alone: three a minute.
+        TwelveCars x = Scene.of("s1,b1,s1,b1,g1");
+        due("one", x.soonest(1, ANY), 0);
+        due("two", x.soonest(3, ANY), 1);
+        due("three", x.soonest(7, ANY), 2);
+        due("four", x.soonest(15, ANY), 3);
+        due("a guest beside one of them", x.soonest(16 + 7, ANY), 2);
+        due("nobody has got in", x.count(3), 31);
     }
 
     private static void inNow() {
@@ -230,7 +241,7 @@ public final class EdgeSearchTest {
         due("3", x.soonest(7, 3), BAD);
         due("when -1", x.when(7, -1, 0), BAD);
         due("when 3", x.when(7, 3, 0), BAD);
-        for (int far : FAR_OFF) {
+        for (int far : Check.FAR_OFF) {
             due("far off", x.soonest(7, far), BAD);
             due("when far off", x.when(7, far, 0), BAD);
         }
@@ -248,7 +259,7 @@ public final class EdgeSearchTest {
         due("32 is not 0", x.when(5, ANY, 32), BAD);
         due("34 is not 2", x.when(5, ANY, 34), BAD);
         due("-30 is not 2", x.when(5, ANY, -30), BAD);
-        for (int far : FAR_OFF) {
+        for (int far : Check.FAR_OFF) {
             due("far off", x.when(5, ANY, far), BAD);
         }
         due("who waits still", x.count(3), 7);
@@ -446,6 +457,7 @@ public final class EdgeSearchTest {
     }
 
     private static void leastRefused() {
+        CHECK.says("LEAST SAND for one who waits");
         CHECK.says("BAD: also one who does not wait; NONE: by none.");
         TwelveCars x = Scene.of("g1,g1,g1", 20, "i0;i1;o1");
         for (int what = 0; what < 2; what++) {
@@ -454,13 +466,13 @@ public final class EdgeSearchTest {
             due("who waits", x.least(2, what), 0);
             due("nobody", x.least(3, what), BAD);
             due("-1", x.least(-1, what), BAD);
-            for (int far : FAR_OFF) {
+            for (int far : Check.FAR_OFF) {
                 due("far off", x.least(far, what), BAD);
             }
         }
         due("what -1", x.least(2, -1), BAD);
         due("what 2", x.least(2, 2), BAD);
-        for (int far : FAR_OFF) {
+        for (int far : Check.FAR_OFF) {
             due("far off", x.least(2, far), BAD);
         }
     }
@@ -474,7 +486,7 @@ public final class EdgeSearchTest {
         due("10", x.sure(10), BAD);
         due("worst -1", x.worst(-1, 0), FAR_BAD);
         due("worst 10", x.worst(10, 1), FAR_BAD);
-        for (int far : FAR_OFF) {
+        for (int far : Check.FAR_OFF) {
             due("far off", x.sure(far), BAD);
             due("worst far off", x.worst(far, 0), FAR_BAD);
         }
@@ -582,7 +594,7 @@ public final class EdgeSearchTest {
         TwelveCars x = Scene.of("g10,g10", 99, "i0;t;i1");
         due("-1", x.worst(0, -1), FAR_BAD);
         due("2", x.worst(0, 2), FAR_BAD);
-        for (int far : FAR_OFF) {
+        for (int far : Check.FAR_OFF) {
             due("far off", x.worst(0, far), FAR_BAD);
         }
     }

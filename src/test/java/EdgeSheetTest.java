@@ -4,7 +4,6 @@ public final class EdgeSheetTest {
         INDEX = TwelveCars.INDEX, SIZE = TwelveCars.SIZE;
     private static final int MIN = Integer.MIN_VALUE, MAX = Integer.MAX_VALUE;
     private static final int BYTES = 0, SHORTS = 1, INTS = 2;
-    private static final int[] FAR_OFF = {MIN, MIN + 1, -65536, -256, -2, 256, 65536, 1 << 30, MAX};
     private static final Check CHECK = new Check();
 
     public static void main(String[] args) {
@@ -188,7 +187,7 @@ public final class EdgeSheetTest {
             due("-1 of " + n, x.item(0, SHORTS, -1, 1), INDEX);
         }
         TwelveCars x = withSheet(SHORTS, 24);
-        for (int far : FAR_OFF) {
+        for (int far : Check.FAR_OFF) {
             due("far off", x.item(0, SHORTS, far, 1), INDEX);
             due("far off by one", x.item(0, SHORTS, far == -2 ? -1 : far + 1, 1), INDEX);
         }
@@ -225,7 +224,7 @@ public final class EdgeSheetTest {
         }
         due("13", x.pour(0, BYTES, 13), INDEX);
         due("-1", x.pour(0, BYTES, -1), INDEX);
-        for (int far : FAR_OFF) {
+        for (int far : Check.FAR_OFF) {
             due("far off", x.pour(0, BYTES, far), INDEX);
         }
         due("MAX less 11", x.pour(0, BYTES, MAX - 11), INDEX);
@@ -245,7 +244,7 @@ public final class EdgeSheetTest {
     }
 
     private static void pourOfEachSand() {
-        CHECK.says("NOT: one is not 0 .. 99, the wheel would not be EVEN.");
+        CHECK.says("BAD; NULL; CAST; INDEX; NOT: one is not 0 .. 99, the wheel would not be EVEN.");
         for (int car = 0; car < 12; car++) {
             TwelveCars x = withSheet(SHORTS, 12);
             x.item(0, SHORTS, car, 99);
@@ -316,7 +315,7 @@ public final class EdgeSheetTest {
         TwelveCars x = withSheet(SHORTS, 24);
         due("13", x.film(0, SHORTS, 13), INDEX);
         due("-1", x.film(0, SHORTS, -1), INDEX);
-        for (int far : FAR_OFF) {
+        for (int far : Check.FAR_OFF) {
             due("far off", x.film(0, SHORTS, far), INDEX);
         }
         due("MAX less 11", x.film(0, SHORTS, MAX - 11), INDEX);
@@ -451,7 +450,7 @@ public final class EdgeSheetTest {
         due("most and most", x.copy(0, MAX, 1, MAX, MAX), INDEX);
         due("least and most", x.copy(0, MIN, 1, 0, MAX), INDEX);
         due("least and least", x.copy(0, MIN, 1, MIN, MIN), INDEX);
-        for (int far : FAR_OFF) {
+        for (int far : Check.FAR_OFF) {
             due("i far off", x.copy(0, far, 1, 0, 1), INDEX);
             due("j far off", x.copy(0, 0, 1, far, 1), INDEX);
             due("n far off", x.copy(0, 0, 1, 0, far), INDEX);
@@ -472,7 +471,7 @@ public final class EdgeSheetTest {
         due("j below", x.copy(0, 0, 1, -1, 0), INDEX);
         due("i above none", x.copy(2, 1, 0, 0, 0), INDEX);
         due("j above none", x.copy(0, 0, 2, 1, 0), INDEX);
-        for (int far : FAR_OFF) {
+        for (int far : Check.FAR_OFF) {
             due("i far off", x.copy(0, far, 1, 0, 0), INDEX);
             due("j far off", x.copy(0, 0, 1, far, 0), INDEX);
         }

@@ -2,12 +2,16 @@
 public final class EdgeWheelTest {
     private static final int BAD = TwelveCars.BAD, NOT = TwelveCars.NOT, FULL = TwelveCars.FULL, NONE = TwelveCars.NONE;
     private static final int FAR_BAD = -100000001;
-    /** Far off numbers, among them those that would be taken if a high bit were lost. */
-    private static final int[] FAR_OFF = {Integer.MIN_VALUE, Integer.MIN_VALUE + 1, -65536, -256, -2, 256, 65536, 1 << 30,
-        Integer.MAX_VALUE};
     private static final Check CHECK = new Check();
 
     public static void main(String[] args) {
+        numbersOfRefusals();
+        refusalsFarBelow();
+        setsAreBits();
+        calls512();
+        twelveCars();
+        waitRideGone();
+        whatHappensAtTheFoot();
         footAtFirst();
         zeroBehindEleven();
         minuteAtMost();
@@ -16,6 +20,8 @@ public final class EdgeWheelTest {
         weights();
         kinds();
         seats();
+        fits();
+        stoutOnes();
         children();
         goats();
         sandInACar();
@@ -52,6 +58,103 @@ public final class EdgeWheelTest {
 
     private static void due(String call, long got, long want) {
         CHECK.due(call, got, want);
+    }
+
+    private static void numbersOfRefusals() {
+        CHECK.says("BAD -1 (a number is not as told, or names nothing), NOT -2 (as told), FULL -3, NONE -4 (as told), CAST -12");
+        due("BAD", TwelveCars.BAD, -1);
+        due("NOT", TwelveCars.NOT, -2);
+        due("FULL", TwelveCars.FULL, -3);
+        due("NONE", TwelveCars.NONE, -4);
+        due("CAST", TwelveCars.CAST, -12);
+        CHECK.says("NULL -11, INDEX -13, SIZE -14");
+        due("NULL", TwelveCars.NULL, -11);
+        due("INDEX", TwelveCars.INDEX, -13);
+        due("SIZE", TwelveCars.SIZE, -14);
+    }
+
+    private static void refusalsFarBelow() {
+        CHECK.says("Where a told thing may be below 0, refused ones are 100000000 less (-100000001 and so on).");
+        TwelveCars x = Scene.of("g1,g1,g1,g1,g1,g1,g1,g1,g1", 20, "i0;i1;i2;t;i3;i4;i5;t;i6;i7;i8");
+        due("out", x.out(6), -100000001);
+        due("worst, BAD", x.worst(10, 0), -100000001);
+        due("worst, FULL", x.worst(0, 0), -100000003);
+        due("sure is never below 0", x.sure(0), -3);
+        x = Scene.ofSand(999, 99, 0, 0, 0, 0, 99);
+        due("told, though below 0", x.out(5), -2 * 198 * 99);
+    }
+
+    private static void setsAreBits() {
+        CHECK.says("Sets are bits.");
+        TwelveCars x = Scene.of("g1,g1,g1,g1,g1,g1,g1,g1,g1,g1");
+        for (int one = 0; one < 10; one++) {
+            due("who waits", x.count(3), 1024 - (1 << one));
+            due("who may get in", x.may(0), 1024 - (1 << one));
+            due("one by himself", x.soonest(1 << one, 0), 0);
+            x.board(one);
+            due("who rides", x.count(4), 1 << one);
+            due("who rides in a car", x.car(0, 3), 1 << one);
+            due("who may get out", x.may(1), 1 << one);
+            x.leave(one);
+            due("who is gone", x.count(5), (2 << one) - 1);
+        }
+    }
+
+    private static void calls512() {
+        CHECK.says("An object is used for at most 512 calls after it has been made");
+        TwelveCars x = new TwelveCars();
+        for (int call = 1; call <= 510; call += 2) {
+            x.image();
+            x.type('t', 1);
+        }
+        due("the 511th", x.type('t', 1), FULL);
+        due("the 512th", x.evening(), -21);
+        x = new TwelveCars();
+        for (int call = 1; call <= 512; call++) {
+            due("the turn of call " + call, x.turn(1), call);
+        }
+    }
+
+    private static void twelveCars() {
+        CHECK.says("CARS 0 .. 11 hang round a wheel");
+        TwelveCars x = new TwelveCars();
+        for (int car = 0; car < 12; car++) {
+            due("sand", x.sand(1), 0);
+            due("car " + car, x.car(car, 0), 1);
+            due("so many have sand", x.count(6), car + 1);
+            x.turn(1);
+        }
+        due("the first one again", x.sand(2), 1);
+        due("car 12", x.car(12, 0), BAD);
+        due("car -1", x.car(-1, 0), BAD);
+    }
+
+    private static void waitRideGone() {
+        CHECK.says("wait, ride in a car, or are gone (who got out)");
+        TwelveCars x = Scene.of("g5");
+        due("waits", x.count(3) * 100 + x.count(4) * 10 + x.count(5), 100);
+        x.board(0);
+        due("rides", x.count(3) * 100 + x.count(4) * 10 + x.count(5), 10);
+        x.leave(0);
+        due("is gone", x.count(3) * 100 + x.count(4) * 10 + x.count(5), 1);
+        due("and does not come again", x.board(0), BAD);
+        due("nor may", x.may(0), 0);
+        due("nor get out again", x.leave(0), BAD);
+    }
+
+    private static void whatHappensAtTheFoot() {
+        CHECK.says("one who waits GETS IN (the car at the foot), one who rides in it GETS OUT, SAND of it becomes so much, a TURN");
+        for (int minute = 0; minute < 25; minute++) {
+            TwelveCars x = Scene.turnedTo(minute, Scene.of("g3,g4"));
+            x.board(1);
+            x.sand(7);
+            due("he rides there", x.car(minute % 12, 3), 2);
+            due("sand is there", x.car(minute % 12, 2), 7);
+            due("both weigh", x.car(minute % 12, 0), 11);
+            due("no other car has sand", x.count(6), 7);
+            due("he gets out", x.leave(1), 0);
+            due("nobody rides there", x.car(minute % 12, 3), 0);
+        }
     }
 
     private static void footAtFirst() {
@@ -130,7 +233,7 @@ public final class EdgeWheelTest {
             due("0", x.person(kind, 0), BAD);
             due("100", x.person(kind, 100), BAD);
             due("-1", x.person(kind, -1), BAD);
-            for (int far : FAR_OFF) {
+            for (int far : Check.FAR_OFF) {
                 due("far off", x.person(kind, far), BAD);
                 due("far off by one", x.person(kind, far + 1), BAD);
             }
@@ -147,7 +250,7 @@ public final class EdgeWheelTest {
         TwelveCars x = new TwelveCars();
         due("-1", x.person(-1, 5), BAD);
         due("4", x.person(4, 5), BAD);
-        for (int far : FAR_OFF) {
+        for (int far : Check.FAR_OFF) {
             due("far off", x.person(far, 5), BAD);
         }
         for (int kind = 0; kind < 4; kind++) {
@@ -190,6 +293,26 @@ public final class EdgeWheelTest {
         }
     }
 
+    private static void fits() {
+        CHECK.says("FITS: a car in which no more than 3 seats are taken and each KIND rides as it may.");
+        due("too many seats, none who may not", lastIn("sgg"), NOT);
+        due("few seats, one who may not", lastIn("c"), NOT);
+        due("three seats, one who may not", lastIn("bc"), NOT);
+        due("four seats, and one who may not", lastIn("bgc"), NOT);
+        due("three seats, all as they may", lastIn("sc"), 3);
+    }
+
+    private static void stoutOnes() {
+        CHECK.says("2 STOUT (takes two seats)");
+        TwelveCars x = Scene.of("s1,g1,g1", 20, "i0");
+        due("two", x.car(0, 1), 2);
+        due("a third", x.board(1), 3);
+        due("no fourth", x.board(2), NOT);
+        due("he gives two", x.leave(0), 0);
+        due("one is left", x.car(0, 1), 1);
+        due("there is place again", x.board(2), 2);
+    }
+
     private static void children() {
         CHECK.says("1 CHILD (rides only where one who is no CHILD rides, too)");
         due("alone", lastIn("c"), NOT);
@@ -227,7 +350,7 @@ public final class EdgeWheelTest {
         x.limit(999);
         due("-1", x.sand(-1), BAD);
         due("100", x.sand(100), BAD);
-        for (int far : FAR_OFF) {
+        for (int far : Check.FAR_OFF) {
             due("far off", x.sand(far), BAD);
         }
         due("99", x.sand(99), 0);
@@ -249,6 +372,8 @@ public final class EdgeWheelTest {
     }
 
     private static void corners() {
+        CHECK.says("of twice LOAD times the cosine, the sine of 30 degrees times the number of the car all together are p and q R, "
+            + "s and t R (p, q, s, t whole)");
         CHECK.says("twice the cosines are 2, R, 1, 0, -1, -R, -2, -R, -1, 0, 1, R for cars 0 .. 11, "
             + "twice the sines 0, 1, R, 2, R, 1, 0, -1, -R, -2, -R, -1");
         int[][] told = {{2, 0, 0, 0}, {0, 1, 1, 0}, {1, 0, 0, 1}, {0, 0, 2, 0}, {-1, 0, 0, 1}, {0, -1, 1, 0},
@@ -292,7 +417,7 @@ public final class EdgeWheelTest {
         TwelveCars x = new TwelveCars();
         due("-1", x.limit(-1), BAD);
         due("1000", x.limit(1000), BAD);
-        for (int far : FAR_OFF) {
+        for (int far : Check.FAR_OFF) {
             due("far off", x.limit(far == 256 ? 1256 : far), BAD);
         }
         due("999", x.limit(999), 20);
@@ -373,7 +498,7 @@ public final class EdgeWheelTest {
         due("0", x.turn(0), BAD);
         due("61", x.turn(61), BAD);
         due("-1", x.turn(-1), BAD);
-        for (int far : FAR_OFF) {
+        for (int far : Check.FAR_OFF) {
             due("far off", x.turn(far), BAD);
             due("far off by one", x.turn(far + 1), BAD);
         }
@@ -412,7 +537,7 @@ public final class EdgeWheelTest {
         for (int what = 0; what < 4; what++) {
             due("two have come", x.told(2, what), BAD);
             due("-1", x.told(-1, what), BAD);
-            for (int far : FAR_OFF) {
+            for (int far : Check.FAR_OFF) {
                 due("far off", x.told(far, what), BAD);
             }
         }
@@ -443,7 +568,7 @@ public final class EdgeWheelTest {
         TwelveCars x = Scene.of("s4");
         due("what -1", x.told(0, -1), BAD);
         due("what 4", x.told(0, 4), BAD);
-        for (int far : FAR_OFF) {
+        for (int far : Check.FAR_OFF) {
             due("far off", x.told(0, far), BAD);
         }
         due("what 0", x.told(0, 0), 2);
@@ -467,13 +592,13 @@ public final class EdgeWheelTest {
             due("car -1", x.car(-1, what), BAD);
             due("car 12, where they wait", x.car(12, what), BAD);
             due("car 13, where they are gone", x.car(13, what), BAD);
-            for (int far : FAR_OFF) {
+            for (int far : Check.FAR_OFF) {
                 due("far off", x.car(far, what), BAD);
             }
         }
         due("what -1", x.car(0, -1), BAD);
         due("what 4", x.car(0, 4), BAD);
-        for (int far : FAR_OFF) {
+        for (int far : Check.FAR_OFF) {
             due("far off", x.car(0, far), BAD);
         }
     }
@@ -496,7 +621,7 @@ public final class EdgeWheelTest {
         }
         due("-1", x.out(-1), FAR_BAD);
         due("6", x.out(6), FAR_BAD);
-        for (int far : FAR_OFF) {
+        for (int far : Check.FAR_OFF) {
             due("far off", x.out(far), FAR_BAD);
         }
         // A q or s of -1 is an answer, not a refusal.
@@ -520,7 +645,7 @@ public final class EdgeWheelTest {
         due("sand", x.count(6), 9);
         due("-1", x.count(-1), BAD);
         due("7", x.count(7), BAD);
-        for (int far : FAR_OFF) {
+        for (int far : Check.FAR_OFF) {
             due("far off", x.count(far), BAD);
         }
         due("sand of all", Scene.ofSand(0, 99, 99, 99, 99, 99, 99, 99, 99, 99, 99, 99, 99).count(6), 1188);
@@ -553,7 +678,7 @@ public final class EdgeWheelTest {
         due("who is gone", x.board(1), BAD);
         due("nobody", x.board(3), BAD);
         due("-1", x.board(-1), BAD);
-        for (int far : FAR_OFF) {
+        for (int far : Check.FAR_OFF) {
             due("far off", x.board(far), BAD);
         }
         x.turn(1);
@@ -597,7 +722,7 @@ public final class EdgeWheelTest {
         due("who waits", x.leave(2), BAD);
         due("nobody", x.leave(3), BAD);
         due("-1", x.leave(-1), BAD);
-        for (int far : FAR_OFF) {
+        for (int far : Check.FAR_OFF) {
             due("far off", x.leave(far), BAD);
         }
         x.turn(10);
@@ -683,7 +808,7 @@ public final class EdgeWheelTest {
         TwelveCars x = Scene.of("g1,g1", 20, "i0");
         due("-1", x.may(-1), BAD);
         due("2", x.may(2), BAD);
-        for (int far : FAR_OFF) {
+        for (int far : Check.FAR_OFF) {
             due("far off", x.may(far), BAD);
         }
         due("0", x.may(0), 2);
