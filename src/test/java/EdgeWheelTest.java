@@ -31,6 +31,7 @@ public final class EdgeWheelTest {
         limitAtFirst();
         limits();
         evenIsNoMoreThan();
+        evenByTheRootAlone();
         evenAtLimitZero();
         evenAtTheGreatestLimit();
         evenByAHair();
@@ -441,6 +442,23 @@ public final class EdgeWheelTest {
         x = Scene.ofSand(999, 50, 0, 50);
         due("p 150, t 50, no R: 86.6", x.limit(86), NOT);
         due("87", x.limit(87), 999);
+    }
+
+    /** A alone is just 4 times LIMIT times LIMIT, so that the sign of B decides. */
+    private static void evenByTheRootAlone() {
+        CHECK.says("R times twice (p q and s t): A and B R. It is EVEN, if THE SQUARE is no more than 4 times LIMIT times LIMIT");
+        TwelveCars x = Scene.ofSand(999, 3, 0, 0, 0, 0, 4);
+        due("A", x.out(4), 100);
+        due("B below 0", x.out(5), -48);
+        due("less than 4 times 5 times 5", x.limit(5), 999);
+        x = Scene.ofSand(999, 3, 4);
+        due("A", x.out(4), 100);
+        due("B above 0", x.out(5), 48);
+        due("more than 4 times 5 times 5", x.limit(5), NOT);
+        x = Scene.ofSand(999, 3, 0, 0, 4);
+        due("A", x.out(4), 100);
+        due("no B", x.out(5), 0);
+        due("just 4 times 5 times 5", x.limit(5), 999);
     }
 
     private static void evenAtLimitZero() {
