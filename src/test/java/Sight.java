@@ -17,7 +17,7 @@ final class Sight {
         return sight.seen;
     }
 
-    /** All there is, the limit, the tape, sheets and the image with it: some 400 calls, behind which nothing is as it was. */
+    /** All there is, the limit, the tape, sheets and the image with it: some 300 calls, behind which nothing is as it was. */
     static List<String> ofAll(TwelveCars x) {
         Sight sight = new Sight(x);
         sight.wheel();
